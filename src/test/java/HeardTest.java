@@ -185,6 +185,16 @@ public final class HeardTest {
         Checks.due("the last byte", bus.byteAt(20 + more), 255);
         Checks.illegalArgument("behind the last", () -> bus.byteAt(21 + more));
 
+        // Behind its 512th call an object may answer what it likes, but still throws nothing.
+        BusTelegrams endless = new BusTelegrams();
+        for (int i = 0; i < 700; i++) {
+            endless.disturb(1);
+            endless.disturb(10);
+            endless.run(13);
+        }
+        endless.run(100);
+        endless.heard(0);
+
         // The sixth byte may tell of more data than send takes.
         int[] data = new int[40];
         BusTelegrams forty = new BusTelegrams();

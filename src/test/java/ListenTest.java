@@ -38,6 +38,13 @@ public final class ListenTest {
         bus.run(130);
         Checks.due("listeners' answer", bus.answer(), 204);
         Checks.due("SAID to listeners", bus.station(0, 3), 1);
+        for (int edge : new int[] {0, 255}) {
+            BusTelegrams other = new BusTelegrams();
+            other.listen(4, edge, true);
+            other.send(0, 0, edge, true, 1, 0);
+            other.run(130);
+            Checks.due("listener's answer to group " + edge, other.answer(), 204);
+        }
         bus.listen(4, 200, false);
         bus.listen(6, 200, false);
         bus.send(0, 0, 200, true, 1, 0);

@@ -53,9 +53,9 @@ public final class SendTest {
 
     private static void saysItBitByBit() {
         BusTelegrams bus = new BusTelegrams();
-        bus.address(3, 0xC0DE);
+        bus.address(3, 0xC1DE);
         bus.send(3, 2, 0xBEEF, false, 3, 0x41);
-        int[] bytes = Checks.telegram(184, 0xC0DE, 0xBEEF, 2, 0x41, 0x42, 0x43);
+        int[] bytes = Checks.telegram(184, 0xC1DE, 0xBEEF, 2, 0x41, 0x42, 0x43);
         Checks.dueLine("line", Checks.lineOf(bus, 128), Checks.bits(bytes));
         Checks.due("telegrams in T", bus.heard(0), 0);
         bus.run(3);
@@ -101,6 +101,7 @@ public final class SendTest {
             Checks.due("round the ring", bus.send(0, 0, 1, false, 1, 2 * i + 1), 2);
             bus.run(200);
             Checks.due("said round the ring", bus.byteAt(6), 2 * i);
+            Checks.due("for the first time", bus.byteAt(0), 176);
             Checks.due("gone from the ring", bus.station(0, 0), 1);
             bus.run(200);
             Checks.due("said round the ring", bus.byteAt(6), 2 * i + 1);
