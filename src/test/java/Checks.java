@@ -102,14 +102,55 @@ final class Checks {
         return String.join("11", characters);
     }
 
-    /** Runs bit by bit and tells what the line was. */
+    /** Runs and tells what the line was, with as few calls as may be: an object has 512. */
     static String lineOf(BusTelegrams bus, int bits) {
         StringBuilder line = new StringBuilder();
-        for (int i = 0; i < bits; i++) {
-            bus.run(1);
-            line.append(bus.bit(0));
+        int left = bits;
+        while (left > 0) {
+            int part = Math.min(left, 64);
+            bus.run(part);
+            for (int back = part - 1; back >= 0; back--) {
+                line.append(bus.bit(back));
+            }
+            left -= part;
         }
         return line.toString();
+    }
+
+    /** Disturbs the next bit times that have a 0 here, and runs through all of them. */
+    static void play(BusTelegrams bus, String line) {
+        for (int begin = 0; begin < line.length(); begin += 50) {
+            String part = line.substring(begin, Math.min(begin + 50, line.length()));
+            for (int i = 0; i < part.length(); i++) {
+                if (part.charAt(i) == '0') {
+                    bus.disturb(i + 1);
+                }
+            }
+            bus.run(part.length());
+        }
+    }
+
+    static String ones(int count) {
+        return "1".repeat(count);
+    }
+
+    /** How many 1s a telegram or a character ends with: they count for what is idle behind it. */
+    static int onesAtTheEnd(String line) {
+        return line.length() - 1 - line.lastIndexOf('0');
+    }
+
+    /** All of what station, or heard, tells. */
+    static void dueFacts(String when, BusTelegrams bus, int station, int... want) {
+        for (int what = 0; what < 6; what++) {
+            String call = when + ": station(" + station + ", " + what + ")";
+            due(call, bus.station(station, what), want[what]);
+        }
+    }
+
+    static void dueHeard(String when, BusTelegrams bus, int... want) {
+        for (int what = 0; what < 5; what++) {
+            due(when + ": heard(" + what + ")", bus.heard(what), want[what]);
+        }
     }
 
     static void dueLine(String call, String got, String want) {
@@ -131,14 +172,6 @@ final class Checks {
      * station that is none of the eight had said them, and runs up to the last bit of the last one.
      */
     static void sayByDisturbing(BusTelegrams bus, int... bytes) {
-        for (int i = 0; i < bytes.length; i++) {
-            String part = i + 1 < bytes.length ? bits(bytes[i]) + "11" : bits(bytes[i]);
-            for (int k = 0; k < part.length(); k++) {
-                if (part.charAt(k) == '0') {
-                    bus.disturb(k + 1);
-                }
-            }
-            bus.run(part.length());
-        }
+        play(bus, bits(bytes));
     }
 }

@@ -59,12 +59,9 @@ public final class DisturbTest {
         Checks.due("behind 2000", bus.bit(0), 1);
         Checks.runFor(bus, 60);
         Checks.due("not again behind 2048 more", bus.bit(0), 1);
-        for (int i = 0; i < 33; i++) {
-            bus.run(64);
-            for (int k = 0; k < 64; k++) {
-                Checks.due("idle later", bus.bit(k), 1);
-            }
-        }
+        bus.run(2000);
+        Checks.due("heard nothing but the two", bus.heard(2), 2);
+        Checks.dueLine("idle later", Checks.lineOf(bus, 200), Checks.ones(200));
     }
 
     private static void stopsWhoSendsOne() {

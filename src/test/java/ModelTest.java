@@ -56,7 +56,7 @@ public final class ModelTest {
 
     private void go() {
         boolean same = true;
-        while (same && calls < CALLS - 12) {
+        while (same && calls < CALLS - 60) {
             same = step() && look();
         }
         if (!same) {

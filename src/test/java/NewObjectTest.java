@@ -7,16 +7,16 @@ public final class NewObjectTest {
         for (int s = 0; s < 8; s++) {
             Checks.due("address at first of " + s, bus.address(s, s), s);
             Checks.due("busy at first of " + s, bus.busy(s, false), false);
-            for (int g = 0; g < 256; g += 5) {
-                Checks.due("listen at first of " + s + " to " + g, bus.listen(s, g, false), false);
-            }
         }
         Checks.illegalArgument("bit(0) of none", () -> bus.bit(0));
-        Checks.due("run(100)", bus.run(100), 100);
-        for (int i = 0; i < 64; i++) {
-            Checks.due("bit of an empty line " + i, bus.bit(i), 1);
-        }
+        Checks.dueLine("an empty line", Checks.lineOf(bus, 100), Checks.ones(100));
         dueEmpty(bus, "idle");
+        for (int s = 0; s < 8; s++) {
+            BusTelegrams silent = new BusTelegrams();
+            for (int g = 0; g < 256; g++) {
+                Checks.due("listen at first of " + s + " to " + g, silent.listen(s, g, false), false);
+            }
+        }
 
         BusTelegrams one = new BusTelegrams();
         BusTelegrams other = new BusTelegrams();

@@ -21,37 +21,30 @@ public final class StationTest {
     private static void tellsOfASaying() {
         BusTelegrams bus = new BusTelegrams();
         bus.send(6, 0, 2, false, 1, 0);
-        dueFacts("told", bus, 6, 1, 0, 0, 0, 0, 0);
+        Checks.dueFacts("told", bus, 6, 1, 0, 0, 0, 0, 0);
         bus.run(1);
-        dueFacts("first bit", bus, 6, 1, 1, 0, 0, 0, 0);
+        Checks.dueFacts("first bit", bus, 6, 1, 1, 0, 0, 0, 0);
         bus.run(100);
-        dueFacts("last bit but one", bus, 6, 1, 1, 0, 0, 0, 0);
+        Checks.dueFacts("last bit but one", bus, 6, 1, 1, 0, 0, 0, 0);
         bus.run(1);
-        dueFacts("last bit", bus, 6, 1, 0, 1, 0, 0, 0);
+        Checks.dueFacts("last bit", bus, 6, 1, 0, 1, 0, 0, 0);
         bus.run(14);
         // Answering is no saying.
-        dueFacts("answering", bus, 2, 0, 0, 0, 0, 0, 0);
+        Checks.dueFacts("answering", bus, 2, 0, 0, 0, 0, 0, 0);
         bus.run(13);
-        dueFacts("T + 27", bus, 6, 1, 0, 1, 0, 0, 0);
+        Checks.dueFacts("T + 27", bus, 6, 1, 0, 1, 0, 0, 0);
         bus.run(1);
-        dueFacts("T + 28", bus, 6, 0, 0, 0, 1, 0, 0);
+        Checks.dueFacts("T + 28", bus, 6, 0, 0, 0, 1, 0, 0);
         bus.run(300);
-        dueFacts("later", bus, 6, 0, 0, 0, 1, 0, 0);
+        Checks.dueFacts("later", bus, 6, 0, 0, 0, 1, 0, 0);
 
         bus.send(6, 0, 60000, false, 1, 0);
         bus.run(103);
-        dueFacts("waits", bus, 6, 1, 0, 1, 1, 0, 0);
+        Checks.dueFacts("waits", bus, 6, 1, 0, 1, 1, 0, 0);
         bus.run(27);
-        dueFacts("is to say it again", bus, 6, 1, 0, 0, 1, 0, 0);
+        Checks.dueFacts("is to say it again", bus, 6, 1, 0, 0, 1, 0, 0);
         Checks.runFor(bus, 600);
-        dueFacts("has LOST it", bus, 6, 0, 0, 0, 1, 1, 0);
-    }
-
-    private static void dueFacts(String when, BusTelegrams bus, int station, int... want) {
-        for (int what = 0; what < 6; what++) {
-            String call = when + ": station(" + station + ", " + what + ")";
-            Checks.due(call, bus.station(station, what), want[what]);
-        }
+        Checks.dueFacts("has LOST it", bus, 6, 0, 0, 0, 1, 1, 0);
     }
 
     private static void idleCounts() {
